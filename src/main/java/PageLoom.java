@@ -746,7 +746,8 @@ public final class PageLoom {
         }
 
         int toldLatest(int transaction) {
-            return latestTold != null && transaction >= 0 && transaction < latestTold.length ? latestTold[transaction] : 0;
+            boolean there = latestTold != null && transaction >= 0 && transaction < latestTold.length;
+            return there ? latestTold[transaction] : 0;
         }
 
         int toldFirst(int page) {
@@ -1284,8 +1285,8 @@ public final class PageLoom {
             if (mark.latestTold == null) {
                 mark.latestTold = new int[TRANSACTIONS];
             }
-            for (int transaction = 0; transaction < TRANSACTIONS && transaction < mark.latestTold.length; transaction++) {
-                mark.latestTold[transaction] = open[transaction] ? latest[transaction] : 0;
+            for (int who = 0; who < TRANSACTIONS && who < mark.latestTold.length; who++) {
+                mark.latestTold[who] = open[who] ? latest[who] : 0;
             }
         }
     }

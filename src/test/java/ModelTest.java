@@ -198,6 +198,19 @@ public final class ModelTest {
         }
     }
 
+    /** Puts keys by rising numbers, so that leaves are half empty and pages run out. */
+    private static void fill(PageLoom x, Model m, int run) {
+        x.open(0);
+        m.open(0);
+        int many = 20 + chance(12);
+        for (int k = 0; k < many; k++) {
+            due("run " + run + " filling", "put 0 " + k, x.put(0, k, k), m.put(0, k, k));
+        }
+        if (oneOf(2)) {
+            due("run " + run + " filling", "commit", x.commit(0), m.commit(0));
+        }
+    }
+
     private static void run(int run, int calls, boolean show) {
         seed = run * 7919L + 12345;
         style = chance(8);
@@ -209,6 +222,9 @@ public final class ModelTest {
         lastKey = 0;
         PageLoom x = new PageLoom();
         Model m = new Model();
+        if (style == 0 || style == 3) {
+            fill(x, m, run);
+        }
         for (int number = 1; number <= calls && wrong == 0; number++) {
             step(x, m, number, run);
             String where = "run " + run + " call " + number + " (" + name + ")";
@@ -227,7 +243,9 @@ public final class ModelTest {
         for (int run = 1; run <= runs && wrong == 0; run++) {
             run(run, run % 5 == 0 ? 512 : 160, false);
         }
-        System.out.println(Arrays.toString(told));
+        if (runs > 300) {
+            System.out.println("how often each kind of answer came: " + Arrays.toString(told));
+        }
         System.out.println(wrong == 0 ? "all answers are as due" : wrong + " answers are not as due");
         if (wrong != 0) {
             System.exit(1);
