@@ -326,7 +326,7 @@ public final class PageLoom {
 
     public int plain(int key) throws IllegalArgumentException {
         needKey(key);
-        return log.committedValue(key);
+        return log.committedValues()[key];
     }
 
     public boolean agrees() {
@@ -776,10 +776,12 @@ public final class PageLoom {
          * UNDOs, some 50 GOs and TAKE OVERs, and one COMMIT or END for each open().
          */
         private static final int MOST_RECORDS = 1100;
+        private static final int UNKNOWN = -2;
 
-        final Disk disk;
-        final Transactions transactions;
+        private final Disk disk;
+        private final Transactions transactions;
         private final LogRecord[] records = new LogRecord[MOST_RECORDS];
+        private final int[] committed = new int[KEYS];
         int last;
 
         Log(Disk disk, Transactions transactions) {
@@ -814,29 +816,35 @@ public final class PageLoom {
             }
         }
 
-        int committedValue(int key) {
+        /** The values of all keys by the COMMITs that are durable; the next call uses the same array again. */
+        int[] committedValues() {
+            for (int key = 0; key < KEYS; key++) {
+                committed[key] = UNKNOWN;
+            }
             for (int number = disk.durableTo; number >= 1; number--) {
                 LogRecord end = at(number);
                 if (end != null && end.kind == COMMIT) {
-                    LogRecord change = latestOfChain(end, key);
-                    if (change != null) {
-                        return change.becomes;
-                    }
+                    believeChain(end);
                 }
             }
-            return NONE;
+            for (int key = 0; key < KEYS; key++) {
+                if (committed[key] == UNKNOWN) {
+                    committed[key] = NONE;
+                }
+            }
+            return committed;
         }
 
-        /** The latest record with the key, of those ahead of one of the same transaction; null if there is none. */
-        private LogRecord latestOfChain(LogRecord end, int key) {
+        /** Goes from a COMMIT back: what stands later in the log was seen before, and is what counts. */
+        private void believeChain(LogRecord end) {
             LogRecord looked = at(end.ahead);
             for (int steps = 0; steps < MOST_RECORDS && looked != null; steps++) {
-                if (looked.key == key) {
-                    return looked;
+                int key = looked.key;
+                if (key >= 0 && key < KEYS && committed[key] == UNKNOWN) {
+                    committed[key] = looked.becomes;
                 }
                 looked = at(looked.ahead);
             }
-            return null;
         }
     }
 
@@ -1575,10 +1583,11 @@ public final class PageLoom {
         }
 
         boolean agreesWithLog() {
+            int[] due = log.committedValues();
             for (int key = 0; key < KEYS; key++) {
                 if (transactions.holders[key] == NONE) {
                     Page leaf = leafOf(key);
-                    if (leaf == null || leaf.valueOf(key) != log.committedValue(key)) {
+                    if (leaf == null || leaf.valueOf(key) != due[key]) {
                         return false;
                     }
                 }
