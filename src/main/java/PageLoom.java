@@ -1685,8 +1685,10 @@ public final class PageLoom {
             }
             int low = lows[at];
             for (int i = 0; i < inner.count; i++) {
-                int high = i + 1 < inner.count ? inner.keyAt(i + 1) : highs[at];
-                if (high < low || high > highs[at]) {
+                boolean isLast = i + 1 >= inner.count;
+                int high = isLast ? highs[at] : inner.keyAt(i + 1);
+                // The keys of an inner page, too, are beneath the children of the pages above it.
+                if (!isLast && (high < low || high >= highs[at])) {
                     fault(UNLIKE_KEYS);
                 }
                 meet(inner.childAt(i), depths[at] + 1, low, high);
