@@ -861,7 +861,7 @@ final class Model {
         faults[7] = true;
         boolean[] met = new boolean[24];
         TreeMap<Integer, Integer> depths = new TreeMap<>();
-        walk(0, 0, -1000, 1000, met, depths, faults);
+        walk(0, 0, met, depths, faults);
         faults[4] |= depths.size() > 1;
         for (int i = 0; i < 24; i++) {
             faults[6] |= !met[i] && peek(i) != null && peek(i).kind != 0;
@@ -873,12 +873,14 @@ final class Model {
         return least == 7 ? 0 : least;
     }
 
-    private void walk(int page, int depth, int low, int high, boolean[] met, TreeMap<Integer, Integer> depths,
+    /** Answers all keys of the page and of what is beneath it: those of leaves and those between children. */
+    private List<Integer> walk(int page, int depth, boolean[] met, TreeMap<Integer, Integer> depths,
             boolean[] faults) {
+        List<Integer> keys = new ArrayList<>();
         P p = peek(page);
         if (met[page]) {
             faults[2] = true;
-            return;
+            return keys;
         }
         met[page] = true;
         if (p == null) {
@@ -888,13 +890,21 @@ final class Model {
         } else if (p.kind == 1) {
             depths.put(depth, page);
             faults[5] |= p.leaf.isEmpty() && page != 0;
-            faults[3] |= !p.leaf.isEmpty() && (p.leaf.firstKey() < low || p.leaf.lastKey() >= high);
+            keys.addAll(p.leaf.keySet());
         } else {
             faults[5] |= p.kids.isEmpty();
+            keys.addAll(p.keys);
             for (int i = 0; i < p.kids.size(); i++) {
-                walk(p.kids.get(i), depth + 1, i == 0 ? low : Math.max(low, p.keys.get(i - 1)),
-                        i == p.keys.size() ? high : Math.min(high, p.keys.get(i)), met, depths, faults);
+                List<Integer> beneath = walk(p.kids.get(i), depth + 1, met, depths, faults);
+                for (int key : beneath) {
+                    for (int between = 0; between < p.keys.size(); between++) {
+                        boolean isBehind = i > between;
+                        faults[3] |= isBehind ? key < p.keys.get(between) : key >= p.keys.get(between);
+                    }
+                }
+                keys.addAll(beneath);
             }
         }
+        return keys;
     }
 }

@@ -972,6 +972,56 @@ public final class PromisesTest {
         dueSound(k);
     }
 
+    /** Pages that were written at unlike times, so that one leaf on the disk lies right beneath the root. */
+    private static void checkingDepths() {
+        PageLoom x = with(0, 12, 22, 18, 21, 0, 23, 14, 24, 26, 5, 13);
+        x.take(0, 21);
+        x.put(0, 7, 7);
+        x.put(0, 9, 9);
+        for (int key : new int[] {23, 26, 22}) {
+            x.take(0, key);
+        }
+        x.put(0, 6, 6);
+        x.take(0, 24);
+        for (int key : new int[] {24, 27, 31}) {
+            x.put(0, key, key);
+        }
+        due("all is right in the frames", x.check(), 0);
+        x.write(6);
+        x.crash();
+        dueCells(x, 0, 2, "5 2106");
+        dueCells(x, 5, 2, "1 702 1207 1404");
+        dueCells(x, 1, 1, "0 5005 6006");
+        dueCells(x, 2, 1, "7007 9009");
+        dueCells(x, 7, 1, "12012 13013");
+        dueCells(x, 4, 1, "14014 18018");
+        dueCells(x, 6, 1, "24024 27027 31031");
+        due("4 page 6 is a child of the root, the other leaves are children of page 5", x.check(), 4);
+        x.recover();
+        dueSound(x);
+    }
+
+    /** A recover() that does its second pass again, and is cut off when a leaf is bare and has not gone yet. */
+    private static void checkingBarePages() {
+        PageLoom x = with(0, 2, 3, 7, 1, 11, 6, 12, 15, 8);
+        x.take(0, 1);
+        x.put(0, 3, 3);
+        x.take(0, 2);
+        x.put(0, 24, 24);
+        x.put(0, 10, 10);
+        x.crash();
+        x.crashAt(6);
+        due("recover() cut off", x.recover(), PageLoom.CRASHED);
+        dueCells(x, 0, 2, "1 302 703 1204");
+        dueCells(x, 1, 1, "");
+        dueCells(x, 2, 1, "3003 6006");
+        dueCells(x, 3, 1, "7007 8008 11011");
+        dueCells(x, 4, 1, "12012 15015 24024");
+        due("5 page 1 has no entries", x.check(), 5);
+        x.recover();
+        dueSound(x);
+    }
+
     private static void constants() {
         due("NONE", PageLoom.NONE, -1);
         due("WAITS", PageLoom.WAITS, -2);
@@ -1039,6 +1089,8 @@ public final class PromisesTest {
         agreeing();
         promise = 28;
         checking();
+        checkingDepths();
+        checkingBarePages();
         promise = 0;
         constants();
     }
