@@ -1022,6 +1022,24 @@ public final class PromisesTest {
         dueSound(x);
     }
 
+    /** Pages that came to the disk at unlike times, so that an inner page's children are all gone on the disk. */
+    private static void checkingPagesWithoutChildren() {
+        PageLoom x = with(0, 4, 20, 5, 29, 12, 0, 31, 8, 21, 14, 13, 22);
+        x.crash();
+        x.recover();
+        x.crash();
+        x.recover();
+        dueSound(x);
+        x.crash();
+        dueCells(x, 0, 2, "5 1206");
+        dueCells(x, 5, 2, "1");
+        dueCells(x, 1, 1, "4004");
+        dueCells(x, 6, 2, "");
+        due("5 page 6 is inner and has no children", x.check(), 5);
+        x.recover();
+        dueSound(x);
+    }
+
     private static void constants() {
         due("NONE", PageLoom.NONE, -1);
         due("WAITS", PageLoom.WAITS, -2);
@@ -1091,6 +1109,7 @@ public final class PromisesTest {
         checking();
         checkingDepths();
         checkingBarePages();
+        checkingPagesWithoutChildren();
         promise = 0;
         constants();
     }
