@@ -100,8 +100,24 @@ public final class FaceTest {
         }
     }
 
+    /** Each line of the face as the document tells it, with what it throws, stands in the program. */
+    private static void declarations() throws IOException {
+        String program = Files.readString(Path.of("src/main/java/PageLoom.java"));
+        String document = Files.readString(Path.of("../shared/DOC.md"));
+        Matcher told = Pattern.compile("(?m)^ {4}(public .*);$").matcher(document);
+        int lines = 0;
+        while (told.find()) {
+            boolean isConstant = told.group(1).contains(" = ");
+            String due = "\n    " + told.group(1) + (isConstant ? ";" : " {") + "\n";
+            due("'" + told.group(1) + "' stands in the program", program.contains(due), true);
+            lines++;
+        }
+        due("lines of the face", lines, FACE.length);
+    }
+
     public static void main(String[] args) throws IOException {
         face();
+        declarations();
         text();
         System.out.println(wrong == 0 ? "the face and the text are as due" : wrong + " things are not as due");
         if (wrong != 0) {

@@ -1,107 +1,5 @@
 /** For each promise of the document some runs of calls, with what is due by its words alone. */
-public final class PromisesTest {
-    private static int wrong = 0;
-    private static int promise = 0;
-
-    private interface Call {
-        long now();
-    }
-
-    private static void due(String what, long got, long want) {
-        if (got != want) {
-            wrong++;
-            System.out.println("promise " + promise + ": " + what + " answered " + got + ", due is " + want);
-        }
-    }
-
-    private static void due(String what, boolean got, boolean want) {
-        due(what, got ? 1 : 0, want ? 1 : 0);
-    }
-
-    private static void refused(String what, Class<? extends RuntimeException> want, Call call) {
-        try {
-            long got = call.now();
-            wrong++;
-            System.out.println("promise " + promise + ": " + what + " answered " + got + ", due is " + want);
-        } catch (RuntimeException e) {
-            if (e.getClass() != want) {
-                wrong++;
-                System.out.println("promise " + promise + ": " + what + " threw " + e.getClass() + ", due is " + want);
-            }
-        }
-    }
-
-    private static void wrongArgument(String what, Call call) {
-        refused(what, IllegalArgumentException.class, call);
-    }
-
-    private static void wrongState(String what, Call call) {
-        refused(what, IllegalStateException.class, call);
-    }
-
-    private static void wrongIndex(String what, Call call) {
-        refused(what, IndexOutOfBoundsException.class, call);
-    }
-
-    /** All entries of a page, told by entry(), with a blank between. */
-    private static String cells(PageLoom x, int page) {
-        StringBuilder text = new StringBuilder();
-        for (int at = 0; x.entry(page, at) != PageLoom.NONE; at++) {
-            text.append(at == 0 ? "" : " ").append(x.entry(page, at));
-        }
-        return text.toString();
-    }
-
-    private static void dueCells(PageLoom x, int page, int kind, String want) {
-        due("kind of page " + page, x.page(page, 0), kind);
-        String got = cells(x, page);
-        if (!got.equals(want)) {
-            wrong++;
-            System.out.println("promise " + promise + ": page " + page + " has " + got + ", due is " + want);
-        }
-    }
-
-    private static void dueFrames(PageLoom x, int... pages) {
-        for (int frame = 0; frame < 4; frame++) {
-            due("page in frame " + frame, x.frame(frame, 0), pages[frame]);
-        }
-    }
-
-    private static void dueSound(PageLoom x) {
-        due("agrees()", x.agrees(), true);
-        due("check()", x.check(), 0);
-    }
-
-    /** An object with keys put by one transaction, each with itself as its value. */
-    private static PageLoom with(int transaction, int... keys) {
-        PageLoom x = new PageLoom();
-        x.open(transaction);
-        for (int key : keys) {
-            due("put " + key, x.put(transaction, key, key), 0);
-        }
-        return x;
-    }
-
-    private static PageLoom committedWith(int... keys) {
-        PageLoom x = with(0, keys);
-        x.commit(0);
-        return x;
-    }
-
-    private static int[] upTo(int many) {
-        int[] keys = new int[many];
-        for (int key = 0; key < many; key++) {
-            keys[key] = key;
-        }
-        return keys;
-    }
-
-    private static PageLoom crashed() {
-        PageLoom x = committedWith(5);
-        x.crash();
-        return x;
-    }
-
+public final class PromisesTest extends Checks {
     private static void aNewObject() {
         PageLoom x = new PageLoom();
         due("records", x.records(), 0);
@@ -132,20 +30,20 @@ public final class PromisesTest {
 
     private static void opening() {
         PageLoom x = new PageLoom();
-        wrongArgument("open(-1)", () -> { x.open(-1); return 0; });
-        wrongArgument("open(4)", () -> { x.open(4); return 0; });
+        wrongArgument("open(-1)", () -> open(x, -1));
+        wrongArgument("open(4)", () -> open(x, 4));
         for (int t = 0; t < 4; t++) {
             int which = t;
             x.open(t);
-            wrongState("open again", () -> { x.open(which); return 0; });
+            wrongState("open again", () -> open(x, which));
         }
         x.commit(2);
         x.open(2);
         x.undo(2);
         x.open(2);
         PageLoom y = crashed();
-        wrongArgument("open(4) behind a crash", () -> { y.open(4); return 0; });
-        wrongState("open behind a crash", () -> { y.open(1); return 0; });
+        wrongArgument("open(4) behind a crash", () -> open(y, 4));
+        wrongState("open behind a crash", () -> open(y, 1));
         y.recover();
         y.open(0);
     }
@@ -557,8 +455,8 @@ public final class PromisesTest {
 
     private static void crashesTold() {
         PageLoom x = with(0, 5, 6);
-        wrongArgument("crashAt(-1)", () -> { x.crashAt(-1); return 0; });
-        wrongArgument("crashAt(1000)", () -> { x.crashAt(1000); return 0; });
+        wrongArgument("crashAt(-1)", () -> crashAt(x, -1));
+        wrongArgument("crashAt(1000)", () -> crashAt(x, 1000));
         x.crashAt(1);
         x.crashAt(999);
         due("in place of the one before", x.commit(0), 3);
@@ -1049,77 +947,50 @@ public final class PromisesTest {
     }
 
     private static void firstHalf() {
-        promise = 1;
-        aNewObject();
-        promise = 2;
-        opening();
-        promise = 3;
-        puttingRefused();
-        puttingSplits();
-        puttingWithoutPages();
-        puttingIntoALongLog();
-        rings();
-        promise = 4;
-        takingAway();
-        takingPagesAway();
-        promise = 5;
-        reading();
-        promise = 6;
-        placesAndWaiting();
-        promise = 7;
-        goingBack();
-        promise = 8;
-        committing();
-        promise = 9;
-        undoing();
-        undoingIntoAFullLeaf();
-        promise = 10;
-        marking();
-        promise = 11;
-        writing();
-        promise = 12;
-        crashesTold();
-        promise = 13;
-        crashing();
+        promise(1, PromisesTest::aNewObject);
+        promise(2, PromisesTest::opening);
+        promise(3, PromisesTest::puttingRefused);
+        promise(3, PromisesTest::puttingSplits);
+        promise(3, PromisesTest::puttingWithoutPages);
+        promise(3, PromisesTest::puttingIntoALongLog);
+        promise(3, PromisesTest::rings);
+        promise(4, PromisesTest::takingAway);
+        promise(4, PromisesTest::takingPagesAway);
+        promise(5, PromisesTest::reading);
+        promise(6, PromisesTest::placesAndWaiting);
+        promise(7, PromisesTest::goingBack);
+        promise(8, PromisesTest::committing);
+        promise(9, PromisesTest::undoing);
+        promise(9, PromisesTest::undoingIntoAFullLeaf);
+        promise(10, PromisesTest::marking);
+        promise(11, PromisesTest::writing);
+        promise(12, PromisesTest::crashesTold);
+        promise(13, PromisesTest::crashing);
     }
 
     private static void secondHalf() {
-        promise = 14;
-        recovering();
-        recoveringTwice();
-        recoveringAtLast();
-        recoveringSmallActions();
-        promise = 15;
-        passes();
-        promise = 16;
-        pagesSeen();
-        promise = 17;
-        entries();
-        promise = 18;
-        framesAndTheHand();
-        promise = 20;
-        recordsTold();
-        promise = 24;
-        holdersAndWaiting();
-        promise = 26;
-        plainValues();
-        promise = 27;
-        agreeing();
-        promise = 28;
-        checking();
-        checkingDepths();
-        checkingBarePages();
-        checkingPagesWithoutChildren();
-        promise = 0;
-        constants();
+        promise(14, PromisesTest::recovering);
+        promise(14, PromisesTest::recoveringTwice);
+        promise(14, PromisesTest::recoveringAtLast);
+        promise(14, PromisesTest::recoveringSmallActions);
+        promise(15, PromisesTest::passes);
+        promise(16, PromisesTest::pagesSeen);
+        promise(17, PromisesTest::entries);
+        promise(18, PromisesTest::framesAndTheHand);
+        promise(20, PromisesTest::recordsTold);
+        promise(24, PromisesTest::holdersAndWaiting);
+        promise(26, PromisesTest::plainValues);
+        promise(27, PromisesTest::agreeing);
+        promise(28, PromisesTest::checking);
+        promise(28, PromisesTest::checkingDepths);
+        promise(28, PromisesTest::checkingBarePages);
+        promise(28, PromisesTest::checkingPagesWithoutChildren);
+        promise(1, PromisesTest::constants);
     }
 
     public static void main(String[] args) {
         firstHalf();
         secondHalf();
-        System.out.println(wrong == 0 ? "all answers are as due" : wrong + " answers are not as due");
-        if (wrong != 0) {
-            System.exit(1);
-        }
+        end();
     }
 }
