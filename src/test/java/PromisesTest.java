@@ -982,9 +982,9 @@ public final class PromisesTest extends Checks {
         promise(26, PromisesTest::plainValues);
         promise(27, PromisesTest::agreeing);
         promise(28, PromisesTest::checking);
-        promise(28, PromisesTest::checkingDepths);
-        promise(28, PromisesTest::checkingBarePages);
-        promise(28, PromisesTest::checkingPagesWithoutChildren);
+        edge(28, "4 leaves lie unlike deep", PromisesTest::checkingDepths);
+        edge(28, "5 a leaf other than the root has no entries", PromisesTest::checkingBarePages);
+        edge(28, "or an inner page no children", PromisesTest::checkingPagesWithoutChildren);
         promise(1, PromisesTest::constants);
     }
 

@@ -694,6 +694,44 @@ public final class RecoveryEdgesTest extends Checks {
         due("keys that are as great as the key ahead", right.check(), 0);
     }
 
+    private static void pagesNotComeTo() {
+        PageLoom leaf = committedWith(upTo(5));
+        leaf.write(1);
+        leaf.crash();
+        dueCells(leaf, 0, 1, "");
+        due("6 page 1 is a leaf that nobody has", leaf.check(), 6);
+        PageLoom inner = committedWith(upTo(10));
+        writeAll(inner);
+        inner.open(0);
+        inner.put(0, 10, 10);
+        inner.write(5);
+        inner.crash();
+        dueCells(inner, 0, 2, "1 202 403 604");
+        dueCells(inner, 5, 2, "1 202");
+        due("6 page 5 is an inner page that nobody has", inner.check(), 6);
+        PageLoom torn = committedWith(upTo(5));
+        torn.crashAt(4);
+        due("write", torn.write(1), PageLoom.CRASHED);
+        due("halves of unlike writings", torn.page(1, 0), PageLoom.NONE);
+        due("0 nobody has it", torn.check(), 0);
+        PageLoom both = committedWith(upTo(5));
+        both.write(2);
+        both.crashAt(4);
+        due("write", both.write(1), PageLoom.CRASHED);
+        due("6 page 2 counts", both.check(), 6);
+    }
+
+    private static void freePagesComeTo() {
+        PageLoom x = committedWith(upTo(5));
+        x.write(0);
+        x.write(1);
+        x.crash();
+        due("page 2 is free", x.page(2, 0), 0);
+        due("2", x.check(), 2);
+        x.recover();
+        dueSound(x);
+    }
+
     private static void theLeastOfSeveral() {
         PageLoom torn = committedWith(upTo(5));
         writeAll(torn);
@@ -766,6 +804,9 @@ public final class RecoveryEdgesTest extends Checks {
         edge(28, "1 a page has halves of unlike writings", RecoveryEdgesTest::tornLeaves);
         edge(28, "0 if all is right", RecoveryEdgesTest::allIsRight);
         edge(28, "2 a page is come to twice, or a free one", RecoveryEdgesTest::pagesComeToTwice);
+        edge(28, "2 a page is come to twice, or a free one", RecoveryEdgesTest::freePagesComeTo);
+        edge(28, "6 a page that is not free is not come to (one whose halves are of unlike writings, and that is not "
+                + "come to, does not count)", RecoveryEdgesTest::pagesNotComeTo);
         edge(28, "all keys beneath the children behind it are at least it, all beneath those ahead are less",
                 RecoveryEdgesTest::keysAtTheirBounds);
         edge(28, "otherwise the least of", RecoveryEdgesTest::theLeastOfSeveral);

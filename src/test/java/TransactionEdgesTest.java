@@ -184,6 +184,55 @@ public final class TransactionEdgesTest extends Checks {
         ringOfTwo(3, 3, 0, 1);
     }
 
+    /** Each call that locks tells WAITS, then VICTIM, or goes on when another one was the victim. */
+    private static void answersOf(String what, CallWith onKeyZero, int answerOfNone) {
+        PageLoom x = allOpen();
+        holds(x, 0, 0, 2);
+        holds(x, 1, 1, 1);
+        due(what, onKeyZero.now(x, 1), PageLoom.WAITS);
+        due("waits for", x.waitsFor(1), 0);
+        due("0 waits, and 1 is the victim", x.read(0, 1), PageLoom.NONE);
+        PageLoom y = allOpen();
+        holds(y, 0, 0, 2);
+        holds(y, 1, 1, 1);
+        due("0 waits", y.read(0, 1), PageLoom.WAITS);
+        due(what, onKeyZero.now(y, 1), PageLoom.VICTIM);
+        wrongState("1 has ended", () -> y.place(1));
+        due("0 has its key", y.holder(0), 0);
+        PageLoom z = allOpen();
+        holds(z, 0, 0, 1);
+        holds(z, 1, 1, 2);
+        due("0 waits", z.read(0, 1), PageLoom.WAITS);
+        due(what + " when 0 is undone", onKeyZero.now(z, 1), answerOfNone);
+        due("1 has the key", z.holder(0), 1);
+    }
+
+    private static void answersOfPut() {
+        answersOf("put", (x, t) -> x.put(t, 0, 7), 0);
+    }
+
+    private static void answersOfTake() {
+        answersOf("take", (x, t) -> x.take(t, 0), PageLoom.NONE);
+        PageLoom x = committedWith(5);
+        x.open(0);
+        due("take", x.take(0, 5), 5);
+        due("take", x.take(0, 5), PageLoom.NONE);
+        due("take of one never put", x.take(0, 6), PageLoom.NONE);
+        due("one CHANGE", x.records(), 3);
+        due("locked", x.holder(6), 0);
+    }
+
+    private static void answersOfRead() {
+        answersOf("read", (x, t) -> x.read(t, 0), PageLoom.NONE);
+        PageLoom x = committedWith(5);
+        x.open(0);
+        due("read", x.read(0, 5), 5);
+        due("read of one never put", x.read(0, 6), PageLoom.NONE);
+        x.take(0, 5);
+        due("read of one taken away", x.read(0, 5), PageLoom.NONE);
+        due("locked", x.holder(6), 0);
+    }
+
     private static void undosAreRecords() {
         PageLoom x = allOpen();
         holds(x, 0, 0, 1);
@@ -423,6 +472,30 @@ public final class TransactionEdgesTest extends Checks {
         due("UNDO of 1", x.record(6, 3), 1);
     }
 
+    /** All kinds of records, with what each of them has, and what it has not. */
+    private static void recordsOfAllKinds() {
+        PageLoom x = committedWith(upTo(5));
+        x.open(3);
+        x.put(3, 31, 7);
+        x.mark();
+        takeAll(x, 3, 0, 1);
+        x.back(3, 9);
+        x.undo(3);
+        int[][] want = {
+            {0, 0, 0, -1, 1}, {0, 0, 1, -1, 1}, {0, 0, 2, -1, 1}, {0, 0, 3, -1, 1}, {5, -1, -1, -1, 3},
+            {0, 0, 4, -1, 1}, {2, 0, -1, -1, 0}, {0, 3, 31, -1, 1}, {4, -1, -1, -1, 0}, {0, 3, 0, -1, 1},
+            {0, 3, 1, -1, 1}, {6, -1, -1, -1, 2}, {7, -1, -1, -1, 2}, {1, 3, 1, 11, 1}, {1, 3, 0, 10, 1},
+            {1, 3, 31, 8, 1}, {3, 3, -1, -1, 0},
+        };
+        due("records", x.records(), want.length);
+        for (int record = 1; record <= want.length && record <= x.records(); record++) {
+            for (int what = 0; what < 5; what++) {
+                due("record(" + record + ", " + what + ")", x.record(record, what), want[record - 1][what]);
+            }
+        }
+        dueSound(x);
+    }
+
     // ---- what was committed
 
     private static void plainEdges() {
@@ -518,6 +591,9 @@ public final class TransactionEdgesTest extends Checks {
         edge(3, "the victim is the one that has the fewest records in the log since it was opened",
                 TransactionEdgesTest::theFewestRecords);
         edge(3, "of several the highest one", TransactionEdgesTest::theHighestOfSeveral);
+        edge(3, "Returns 0, or WAITS, VICTIM, CRASHED, FULL.", TransactionEdgesTest::answersOfPut);
+        edge(4, "Returns the value, NONE if it is not there, or WAITS, VICTIM", TransactionEdgesTest::answersOfTake);
+        edge(5, "Returns the value, NONE if it is not there, or WAITS, VICTIM", TransactionEdgesTest::answersOfRead);
         edge(5, "the fewest records in the log", TransactionEdgesTest::undosAreRecords);
         edge(20, "NONE for MARK and small actions", TransactionEdgesTest::smallActionsAreNobodys);
         edge(4, "records in the log since it was opened", TransactionEdgesTest::sinceItWasOpened);
@@ -539,6 +615,8 @@ public final class TransactionEdgesTest extends Checks {
         edge(9, "When there is none left, an END is in the log.", TransactionEdgesTest::endsOfWhoWaits);
         edge(10, "tells all open transactions that have records", TransactionEdgesTest::marksOfNothing);
         edge(10, "1 its transaction, NONE for MARK", TransactionEdgesTest::marksAreNobodys);
+        edge(20, "2 the key of a CHANGE or UNDO, for others NONE; 3 the number of the record that an UNDO has undone, for "
+                + "others NONE; 4 how many pages it changes", TransactionEdgesTest::recordsOfAllKinds);
         edge(26, "Returns the value; NONE if it is not there.", TransactionEdgesTest::plainEdges);
         edge(26, "in the order of these, found plainly", TransactionEdgesTest::plainInTheOrderOfCommits);
         edge(26, "by all transactions whose COMMIT is durable", TransactionEdgesTest::plainOfDurableCommits);

@@ -66,6 +66,45 @@ public final class TreeEdgesTest extends Checks {
         dueSound(x);
     }
 
+    private static void allIsEmpty() {
+        PageLoom x = new PageLoom();
+        dueCells(x, 0, 1, "");
+        due("records", x.records(), 0);
+        due("durable", x.durable(), 0);
+        due("writes", x.writes(), 0);
+        dueFrames(x, -1, -1, -1, -1);
+        due("hand", x.hand(), 0);
+        for (int page = 0; page < 24; page++) {
+            due("number", x.page(page, 1), 0);
+            due("count", x.page(page, 2), 0);
+            due("in a frame", x.page(page, 3), 0);
+            due("nothing to write", x.write(page), 0);
+        }
+        String all = allOf(x);
+        x.crash();
+        x.recover();
+        dueText("what is on the disk", allOf(x), all);
+    }
+
+    /** Ahead of the first child there is no key, also when it was not the first one before. */
+    private static void keysAheadOfChildren() {
+        PageLoom x = with(0, 24, 25, 30, 31, 29);
+        dueCells(x, 0, 2, "1 3002");
+        due("none behind", x.entry(0, 2), PageLoom.NONE);
+        due("far behind", x.entry(0, Integer.MAX_VALUE), PageLoom.NONE);
+        PageLoom y = committedWith(upTo(11));
+        dueCells(y, 6, 2, "3 604 807");
+        y.open(1);
+        takeAll(y, 1, 4, 5);
+        dueCells(y, 6, 2, "4 807");
+        takeAll(y, 1, 6, 7);
+        dueCells(y, 6, 2, "7");
+        due("none behind", y.entry(6, 1), PageLoom.NONE);
+        PageLoom z = with(0, upTo(11));
+        // Page 3 had the key 4 ahead of it, until the root was SPLIT.
+        due("the first child of the half that came", z.entry(6, 0), 3);
+    }
+
     private static void leastAndGreatestEntries() {
         PageLoom x = new PageLoom();
         x.open(0);
@@ -536,6 +575,12 @@ public final class TreeEdgesTest extends Checks {
     private static void splitting() {
         edge(1, "At first the root is a leaf without entries, and all others are free.",
                 TreeEdgesTest::pagesOfANewObject);
+        edge(1, "Begins with an empty root, an empty log, an empty cache, on a disk that has the same.",
+                TreeEdgesTest::allIsEmpty);
+        edge(17, "100 times the key ahead of it (0 for the first one) and the child, together",
+                TreeEdgesTest::keysAheadOfChildren);
+        edge(17, "an entry of a leaf, 1000 times the key and the value, together",
+                TreeEdgesTest::leastAndGreatestEntries);
         edge(3, "keys 0 to 31 with values 0 to 999, by rising keys", TreeEdgesTest::leastAndGreatestEntries);
         edge(3, "A leaf has entries, keys 0 to 31 with values 0 to 999, by rising keys", TreeEdgesTest::risingKeys);
         edge(5, "into its last child ahead of which there is no key greater than it",
